@@ -261,5 +261,60 @@ public final class ActsTest {
         check.due("5", x.trouble(), 5);
         x.undo();
         check.due("6", x.trouble(), 6);
+        for (int call = 0; call < 41; call++) {
+            LotLedger y = Check.of(LotsTest.LONG);
+            y.buy(1, 0, 1, 1);
+            y.image();
+            check.due("refused", y.held(3), -1, y, 1);
+            callRightly(y, call);
+            check.due("0 behind call " + call, y.trouble(), 0);
+        }
+    }
+
+    /** Each call that may be refused, by arguments with which it isn't. */
+    private static void callRightly(LotLedger x, int call) {
+        switch (call) {
+            case 0: x.trade(0, 0); break;
+            case 1: x.booked(0); break;
+            case 2: x.held(0); break;
+            case 3: x.cost(0); break;
+            case 4: x.lots(0); break;
+            case 5: x.lot(0, 0, 0); break;
+            case 6: x.lotCost(0, 0); break;
+            case 7: x.mean(0, true); break;
+            case 8: x.worth(0, 0); break;
+            case 9: x.chain(); break;
+            case 10: x.gain(2); break;
+            case 11: x.deferred(2); break;
+            case 12: x.pieces(2); break;
+            case 13: x.piece(2, 0, 0); break;
+            case 14: x.pieceSum(2, 0, 0); break;
+            case 15: x.gains(); break;
+            case 16: x.deferrals(); break;
+            case 17: x.lost(); break;
+            case 18: x.open(); break;
+            case 19: x.byRule(2, 0); break;
+            case 20: x.leastRule(2); break;
+            case 21: x.byWindow(0); break;
+            case 22: x.until(0); break;
+            case 23: x.heldAt(0, 0); break;
+            case 24: x.later(2); break;
+            case 25: x.fits(); break;
+            case 26: x.fitAt(0); break;
+            case 27: x.could(); break;
+            case 28: x.surely(); break;
+            case 29: x.ask(); break;
+            case 30: x.askLeaves(); break;
+            case 31: x.judge(); break;
+            case 32: x.drawnGains(0, 0); break;
+            case 33: x.drawnHeld(0, 0, 0); break;
+            case 34: x.sell(1, 50, 1, 1, 0); break;
+            case 35: x.split(1, 50, 1, 1); break;
+            case 36: x.strike(8); break;
+            case 37: x.rule(2, 0); break;
+            case 38: x.undo(); break;
+            case 39: x.image(); break;
+            default: x.back(0); break;
+        }
     }
 }

@@ -109,6 +109,9 @@ public final class FitsTest {
         check.due("isn't booked", y.drawnGains(13, 1), 0, y, 0);
         check.due("nothing is booked for good", y.held(2), 19);
         check.due("on the last day", Check.of("ledger window 5;buy 2 3 20 60;buy 0 8 1 1").drawnGains(11, 1), -4);
+        check.due("the last of any number", Check.of("ledger window 5;buy 0 8 1 1;buy 2 3 20 60").drawnGains(11, 1), -4);
+        check.due("the last of any number", Check.of("ledger window 5;buy 0 9 1 1;buy 2 3 20 60").drawnGains(11, 1), -22);
+        check.due("day 0", Check.of("ledger window 0;buy 2 0 20 60").drawnGains(11, 1), -4);
         check.due("beyond the window", Check.of("ledger window 5;buy 2 3 20 60;buy 0 9 1 1").drawnGains(11, 1), -22);
         check.due("a drawn buy replaces", Check.of("ledger window 0;buy 2 3 11 60;buy 0 9 1 1").drawnGains(11, 2), -2);
         check.due("wrong seed", y.drawnGains(-1, 1), 0, y, 2);

@@ -46,7 +46,14 @@ public final class LotsTest {
         int[] sameDay = {4, 2, 0, 1, 3};
         for (int i = 0; i < sameDay.length; i++) {
             check.due("booked " + i + ", of a day by numbers", y.booked(i), sameDay[i]);
+            check.due("as which " + sameDay[i] + " is booked", y.trade(sameDay[i], 6), i);
         }
+        LotLedger z = Check.of("ledger window 0;buy 0 5 1 1;buy 0 6 1 1");
+        check.due("a late trade", z.buy(0, 0, 1, 1), 2);
+        check.due("is booked ahead", z.trade(2, 6), 0);
+        check.due("of the others", z.trade(0, 6), 1);
+        check.due("strike it", z.strike(2), 2);
+        check.due("as it was", z.trade(0, 6), 0);
     }
 
     private static void promises8To10() {

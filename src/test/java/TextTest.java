@@ -87,6 +87,11 @@ public final class TextTest {
         Check.feed(x, "ledger window 5;buy x");
         check.due("the first bytes alone", x.ledger(15), 0);
         check.due("the rest is gone", x.size(7), 0);
+        Check.feed(x, "ledger window 12");
+        check.due("a number ends with the first bytes", x.ledger(15), 0);
+        check.due("its window", x.size(0), 1);
+        Check.feed(x, "ledger window 1;buy 0 0 1 1;sell 0 0 1 1 lasts");
+        check.due("a word ends with the first bytes", x.ledger(45), 2);
     }
 
     private static void promises4And5() {
@@ -131,6 +136,11 @@ public final class TextTest {
         fault("ledger window 1;split 0 0 first", 1, 26);
         fault("ledger window\t1", 1, 13);
         fault("ledgerwindow 1", 1, 0);
+        fault("ledgerz window 1", 1, 0);
+        fault("ledger window 1;buy 0 0 9 1;sell 0 0 1 1 first;gain 1 up", 1, 56);
+        fault("ledger window 1;buy 0 0 9 1;sell 0 0 1 1 first;gain 1 up first", 1, 57);
+        fault("ledger window 1;buy 0 0 9 1;sell 0 0 1 1 first;gain 1", 1, 53);
+        fault("ledger window 1;buy 0 0 9 1;sell 0 0 1 1 first;unsure 1", 1, 55);
         fault("ledger window 0000001", 1, 14);
         fault("ledger window 1;unsure first 1", 1, 23);
         fault("ledger window 1;gain first up 1", 1, 21);

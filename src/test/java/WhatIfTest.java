@@ -42,6 +42,10 @@ public final class WhatIfTest {
         check.due("byRule cheapest", y.byRule(3, 3), 30, y, 0);
         y.buy(0, 3, 1, 30);
         check.due("of like ones the first", y.leastRule(3), 1, y, 0);
+        LotLedger z = Check.of("ledger window 4;buy 0 7 1 3;buy 0 0 2 5;buy 0 4 1 4;buy 0 5 1 2;sell 0 8 2 1 first");
+        check.due("least by cheapest", z.leastRule(4), 3, z, 0);
+        check.due("byRule cheapest", z.byRule(4, 3), -2, z, 0);
+        check.due("byRule last", z.byRule(4, 1), -1, z, 0);
     }
 
     private static void promise27() {
@@ -68,7 +72,8 @@ public final class WhatIfTest {
         }
         check.due("until -1", x.until(-1), 0, x, 2);
         check.due("until 1000", x.until(1000), 0, x, 2);
-        check.due("until without a ledger", new LotLedger().until(5), 0);
+        LotLedger z = new LotLedger();
+        check.due("until without a ledger", z.until(-5), 0, z, 1);
         LotLedger y = Check.of("ledger window 9;buy 0 0 1 10;sell 0 20 1 4 first;buy 0 22 1 8");
         check.due("a buy behind isn't booked", y.until(21), -6);
         check.due("it is", y.until(22), 0);
