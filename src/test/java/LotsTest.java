@@ -54,6 +54,12 @@ public final class LotsTest {
         check.due("of the others", z.trade(0, 6), 1);
         check.due("strike it", z.strike(2), 2);
         check.due("as it was", z.trade(0, 6), 0);
+        LotLedger a = Check.of("ledger window 0;buy 0 5 1 1;buy 0 4 1 1");
+        a.buy(0, 9, 1, 1);
+        a.buy(0, 9, 1, 1);
+        check.due("booked behind", a.trade(0, 6), 1);
+        check.due("strike the one ahead", a.strike(1), 3);
+        check.due("booked first", a.trade(0, 6), 0);
     }
 
     private static void promises8To10() {

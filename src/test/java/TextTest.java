@@ -137,6 +137,8 @@ public final class TextTest {
         fault("ledger window\t1", 1, 13);
         fault("ledgerwindow 1", 1, 0);
         fault("ledgerz window 1", 1, 0);
+        fault("wedger window 1", 1, 0);
+        fault("ledger window 1;guy 0 0 1 1", 1, 16);
         fault("ledger window 1;buy 0 0 9 1;sell 0 0 1 1 first;gain 1 up", 1, 56);
         fault("ledger window 1;buy 0 0 9 1;sell 0 0 1 1 first;gain 1 up first", 1, 57);
         fault("ledger window 1;buy 0 0 9 1;sell 0 0 1 1 first;gain 1", 1, 53);
