@@ -357,6 +357,8 @@ final class ActBounds {
                 s.due("led " + i, Check.led(x, i), -99);
             }
             s.due("the one that there is", Check.led(x, 0), 1);
+            s.due("1 is something", Check.led(Check.of("ledger window 0;buy 0 0 1 9;sell 0 8 1 8 first;buy 0 8 1 9"), 0), 1);
+            s.due("the first TRADE", Check.led(Check.of("ledger window 9;sell 0 8 1 8 first;buy 0 0 2 9;buy 0 9 1 1"), 0), 0);
             s.due("none DEFERRED", Check.led(Check.of(HEAD + "buy 0 0 1 9;sell 0 8 1 5 first"), 0), -99);
             s.due("no LEDGER", Check.led(new LotLedger(), 0), -99);
             s.due("no LEDGER, -1", Check.led(new LotLedger(), -1), -99);

@@ -272,7 +272,7 @@ public final class ActsTest {
     }
 
     /** Each call that may be refused, by arguments with which it isn't. */
-    private static void callRightly(LotLedger x, int call) {
+    static void callRightly(LotLedger x, int call) {
         switch (call) {
             case 0: x.trade(0, 0); break;
             case 1: x.booked(0); break;

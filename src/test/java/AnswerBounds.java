@@ -125,6 +125,21 @@ final class AnswerBounds {
             s.due("back", x.back(0), false, x, 1);
             s.due("three IMAGES again", x.image() + x.image() + x.image(), 3, x, 0);
         });
+        s.test("Promise 3", "are the LEDGER from now on", () -> {
+            String sold = "ledger window 0;buy 0 0 1 10;sell 0 0 1 20 first;";
+            String[] texts = {sold + "unsure 0 15;unsure 1 25;gain 1 up 10", "ledger window 9;unsure 0 1", "ledger window 0",
+                sold + "unsure 1 9", sold + "unsure 0 1;unsure 1 x", sold + "gain 1 up 9", "ledger window 60"};
+            int[] unsure = {2, 2, 0, 1, 1, 0, 0};
+            int[] gains = {1, 1, 0, 0, 0, 1, 0};
+            int[] fits = {2, 2, 1, 2, 2, 0, 1};
+            LotLedger x = new LotLedger();
+            for (int k = 0; k < texts.length; k++) {
+                Check.read(x, texts[k]);
+                s.due(texts[k] + ", unsure ones", x.size(3), unsure[k]);
+                s.due(texts[k] + ", gains", x.size(4), gains[k]);
+                s.due(texts[k] + ", fits()", x.fits(), fits[k], x, 0);
+            }
+        });
         s.test("Promise 3", "NONE: 4 (the LEDGER stays)", () -> {
             for (String text : new String[] {"", "ledger window 61", "ledger window 7;buy 1 1 1 1;sell 0 0 1 1 first", "ledger window 7;unsure 0 1"}) {
                 LotLedger x = Check.of("ledger window 5;buy 0 0 2 3;sell 0 0 1 1 first;unsure 0 4;gain 1 up 0");
@@ -215,6 +230,16 @@ final class AnswerBounds {
                     s.due("trade " + t + " " + what, x.trade(t, what), due[t][what], x, 0);
                 }
             }
+        });
+        s.test("Promise 6", "6 as which it is BOOKED (from 0), NOW", () -> {
+            LotLedger x = Check.of(HEAD + "buy 0 5 1 1;buy 0 4 1 1");
+            x.buy(0, 9, 1, 1);
+            x.buy(0, 9, 1, 1);
+            s.due("behind", x.trade(0, 6), 1);
+            s.due("STRIKE the one ahead", x.strike(1), 3);
+            s.due("the first", x.trade(0, 6), 0);
+            s.due("one ahead again", x.buy(0, 0, 1, 1), 3);
+            s.due("behind again", x.trade(0, 6), 1);
         });
         s.test("Promise 6", "NONE: 1", () -> {
             LotLedger x = Check.of(text);
@@ -374,6 +399,11 @@ final class AnswerBounds {
             s.due("not the last LOT's", x.chain(), 2, x, 0);
             LotLedger y = Check.of("ledger window 0");
             s.due("no TRADES", y.chain(), 0, y, 0);
+            for (int p = 0; p < 3; p++) {
+                String trade = " " + p + " 0 1 5";
+                LotLedger z = Check.of("ledger window 0;buy" + trade + "0;sell" + trade + " first;buy" + trade);
+                s.due("of PAPER " + p + " alone", z.chain(), 1, z, 0);
+            }
         });
         s.test("Promise 15", "NONE: 1 (no LEDGER)", () -> {
             LotLedger y = new LotLedger();
@@ -396,9 +426,14 @@ final class AnswerBounds {
             s.due("no LEDGER", none.gain(0), 0, none, 1);
             LotLedger y = Check.of(HEAD + "buy 0 0 1 1;sell 0 0 1 1 first");
             s.due("a GAIN of 0", y.gain(1), 0, y, 0);
+            LotLedger z = Check.of(HEAD + "sell 0 1 1 9 first;buy 0 0 1 1");
+            s.due("of the first TRADE", z.gain(0), 8, z, 0);
         });
         s.test("Promise 17", "What of it is DEFERRED. -1: 1.", () -> {
             s.due("4 of 8", x.deferred(1), 4, x, 0);
+            LotLedger y = Check.of("ledger window 0;sell 0 1 1 9 first;buy 0 0 3 9;sell 0 2 1 5 first;buy 0 2 1 1");
+            s.due("0 of the first TRADE", y.deferred(0), 0, y, 0);
+            s.due("4 of another", y.deferred(2), 4, y, 0);
             s.due("0", x.deferred(3), 0, x, 0);
             for (int t : noSells) {
                 s.due("deferred " + t, x.deferred(t), -1, x, 1);
@@ -477,8 +512,14 @@ final class AnswerBounds {
             LotLedger y = Check.of(HEAD + "buy 0 0 1 5;buy 1 0 2 3;split 0 1 1 2;split 1 1 1 3;buy 2 0 1 1");
             s.due("of two splits", y.lost(), 11, y, 0);
             s.due("of none", empty.lost(), 0, empty, 0);
-            s.due("STRIKE one", y.strike(2), 4);
-            s.due("no more", y.lost(), 6, y, 0);
+            s.due("STRIKE the second", y.strike(3), 4);
+            s.due("of the first alone", y.lost(), 5, y, 0);
+            s.due("STRIKE the first", y.strike(2), 3);
+            s.due("no more", y.lost(), 0, y, 0);
+            s.due("UNDO", y.undo() && y.undo(), true);
+            s.due("of two again", y.lost(), 11, y, 0);
+            LotLedger z = Check.of(HEAD + "buy 0 0 1 7;sell 0 0 1 9 first;split 0 1 1 2");
+            s.due("of what was sold", z.lost(), 0, z, 0);
             s.due("no LEDGER", none.lost(), -1, none, 1);
         });
         s.test("Promise 24", "PIECES that are OPEN: how many. NONE: 1 (no LEDGER)", () -> {

@@ -148,6 +148,8 @@ final class DrawBounds {
             s.due("the last DAY NOW", x.drawnGains(11, 1), -4);
             s.due("a buy behind", x.buy(1, 6, 1, 1), 1);
             s.due("the last DAY NOW", x.drawnGains(11, 1), -22);
+            s.due("of whatever number", Check.of("ledger window 2;buy 0 6 1 1;buy 2 3 20 60").drawnGains(11, 1), -22);
+            s.due("DAY 0", Check.of("ledger window 0;buy 2 0 20 60").drawnGains(11, 1), -4);
             s.due("behind those of that DAY", Check.of("ledger window 2;buy 2 999 11 60").drawnHeld(2, 11, 1), 0);
         });
         s.test("Terms III", "(0 with none)", () -> {
@@ -182,6 +184,11 @@ final class DrawBounds {
             s.due("the buy of the PIECE", x.piece(1, 0, 1), 0);
             s.due("of the LOT", x.lot(2, 0, 2), 2);
             s.due("no more", x.trade(3, 0), -1, x, 1);
+            s.due("all that was told of one behind", x.trade(1, 0) * 10000 + x.trade(1, 2) * 1000 + x.trade(1, 3) * 100 + x.trade(1, 4) * 10 + x.trade(1, 5), 15130);
+            LotLedger z = Check.of(HEAD + "buy 0 0 9 1;sell 0 1 1 1 first;sell 0 1 1 1 last;sell 0 1 1 1 cheapest");
+            z.strike(1);
+            s.due("RULE of one behind", z.trade(1, 5), 1);
+            s.due("and of the last", z.trade(2, 5), 3);
             LotLedger y = Check.of(HEAD + "buy 0 0 1 1;buy 1 0 1 2");
             s.due("STRIKE the last", y.strike(1), 1);
             s.due("those ahead stay", y.trade(0, 1), 0);
@@ -252,7 +259,17 @@ final class DrawBounds {
     }
 
     private void trouble() {
-        s.test("Terms IV", "0 it wasn't", () -> s.due("new", new LotLedger().trouble(), 0));
+        s.test("Terms IV", "0 it wasn't", () -> {
+            s.due("new", new LotLedger().trouble(), 0);
+            for (int call = 0; call < 41; call++) {
+                LotLedger x = Check.of(LotsTest.LONG);
+                x.buy(1, 0, 1, 1);
+                x.image();
+                s.due("refused", x.held(3), -1, x, 1);
+                ActsTest.callRightly(x, call);
+                s.due("call " + call, x.trouble(), 0);
+            }
+        });
         s.test("Terms IV", "1 there is none such", () -> {
             LotLedger x = new LotLedger();
             s.due("held", x.held(0), -1, x, 1);

@@ -122,6 +122,12 @@ final class LotBounds {
             takes("14 by 3 and 18 by 4", "buy 0 0 9 2;buy 0 0 7 2;split 0 1 1 2", "dearest", 1, 1);
             takes("18 by 4 and 14 by 3", "buy 0 0 7 2;buy 0 0 9 2;split 0 1 1 2", "cheapest", 1, 1);
         });
+        s.test("Terms II", "most, least, by 1", () -> {
+            takes("2 and 1", "buy 0 0 1 1;buy 0 0 1 2", "dearest", 1, 1);
+            takes("1 and 2", "buy 0 0 1 2;buy 0 0 1 1", "cheapest", 1, 1);
+            takes("1 and 0", "buy 0 0 1 0;buy 0 0 1 1", "dearest", 1, 1);
+            takes("0 and 1", "buy 0 0 1 1;buy 0 0 1 0", "cheapest", 1, 1);
+        });
         s.test("Terms II", "of like ones the first in their order", () -> {
             takes("dearest", "buy 0 1 2 6;buy 0 0 3 6;buy 0 2 1 6", "dearest", 1, 0, 2, 6);
             takes("cheapest", "buy 0 1 2 6;buy 0 0 3 6;buy 0 2 1 6", "cheapest", 1, 0, 2, 6);
@@ -298,6 +304,7 @@ final class LotBounds {
             s.due("all", Check.of(HEAD + "buy 0 0 1 7;split 0 1 1 2").lots(0), 0);
         });
         s.test("Terms II", "a PIECE with none isn't OPEN", () -> {
+            s.due("right behind the split", Check.of(HEAD + "buy 0 0 3 5;buy 0 0 4 5;sell 0 20 7 4 first;split 0 20 1 4").open(), 1);
             LotLedger x = Check.of("ledger window 9;buy 0 0 3 5;buy 0 0 4 5;sell 0 20 7 4 first;split 0 20 1 4;buy 0 21 9 1");
             s.due("3 by 4", x.pieceSum(2, 0, 2), 0);
             s.due("4 by 4", x.pieceSum(2, 1, 2), 4);

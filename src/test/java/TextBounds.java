@@ -71,6 +71,16 @@ final class TextBounds {
             s.fault("ledgerwindow 1", 1, 0);
             s.fault("ledgers window 1", 1, 0);
             s.fault("ledge window 1", 1, 0);
+            s.fault("wedger window 1", 1, 0);
+            s.fault("ledger mindow 1", 1, 7);
+            s.fault(HEAD + "guy 0 0 1 1", 1, 16);
+            s.fault(HEAD + "bell 0 0 1 1 first", 1, 16);
+            s.fault(HEAD + "aplit 0 0 1 1", 1, 16);
+            s.fault(SOLD + "ensure 1 1", 1, SOLD.length());
+            s.fault(SOLD + "main 1 up 1", 1, SOLD.length());
+            s.fault(SOLD + "gain 1 op 1", 1, SOLD.length() + 7);
+            s.fault(SOLD + "gain 1 town 1", 1, SOLD.length() + 7);
+            s.fault(SOLD + "sell 0 0 1 1 fast", 1, SOLD.length() + 13);
         });
         s.test("Terms I", "WHOLES of 1 to 6 digits", () -> {
             s.good("ledger window 000060", 0);

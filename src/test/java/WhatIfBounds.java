@@ -51,6 +51,9 @@ final class WhatIfBounds {
             s.due("dearest", y.leastRule(3), 2, y, 0);
             y.buy(0, 0, 1, 9);
             s.due("last and dearest are like", y.leastRule(3), 1, y, 0);
+            // What is sold cheapest leaves the dearest to be lost: least of all GAINS, though not of the sell.
+            LotLedger v = Check.of("ledger window 4;buy 0 7 1 3;buy 0 0 2 5;buy 0 4 1 4;buy 0 5 1 2;sell 0 8 2 1 first");
+            s.due("the last RULE", v.leastRule(4), 3, v, 0);
             LotLedger z = Check.of(HEAD + "buy 0 0 1 5;sell 0 1 1 9 cheapest");
             s.due("all are like", z.leastRule(1), 0, z, 0);
             // By first or dearest -10 and -60, by last or cheapest 10 and -120.
@@ -242,6 +245,8 @@ final class WhatIfBounds {
             s.due("without a set", y.surely(), 0, y, 0);
             LotLedger z = Check.of(SOLD + "unsure 0 1");
             s.due("in one of two", z.surely(), 0, z, 0);
+            LotLedger v = Check.of(HEAD + "buy 0 0 1 10;buy 0 1 1 10;buy 0 2 1 10;sell 0 9 3 20 last;unsure 0 15;unsure 1 15;unsure 2 15;gain 3 up 20");
+            s.due("in two of three each", v.surely(), 0, v, 0);
             LotLedger w = Check.of("ledger window 0");
             s.due("without an unsure one", w.surely(), 0, w, 0);
             s.due("no LEDGER", none.surely(), -1, none, 1);
